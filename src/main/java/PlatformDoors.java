@@ -43,14 +43,16 @@ public final class PlatformDoors {
         if (!isSide(side) || !isWithin(many, 1, STEPS_MOST)) {
             return BAD;
         }
+        Side chosen = sideOf(side);
         for (int i = 0; i < many; i++) {
+            chosen.advance();
             if (side == TRAIN) {
-                advanceTrain();
+                watchTrain();
             } else {
-                advancePlatform();
+                watchPlatform();
             }
         }
-        return sideOf(side).steps;
+        return chosen.steps;
     }
 
     public int arrive(int place, int speed) {
@@ -163,7 +165,7 @@ public final class PlatformDoors {
 
     public boolean mayGo() {
         return train.isFresh() && train.newest.assured
-                && train.state == CLOSED && train.allToldLocked();
+                && train.state == CLOSED && train.countToldLocked() == LEAVES;
     }
 
     public int breaches() {
@@ -177,17 +179,14 @@ public final class PlatformDoors {
         breachCount = 0;
     }
 
-    private void advanceTrain() {
-        train.advance();
+    private void watchTrain() {
         if (train.standsAtMark()) {
             stoodAt = platform.steps;
         }
     }
 
-    private void advancePlatform() {
-        int openingsBefore = platform.openings;
-        platform.advance();
-        if (platform.openings != openingsBefore && stoodAt < platform.steps - FRESH_AGE) {
+    private void watchPlatform() {
+        if (platform.openedAt == platform.steps && stoodAt < platform.steps - FRESH_AGE) {
             breachCount++;
         }
     }
@@ -365,11 +364,12 @@ public final class PlatformDoors {
         }
 
         boolean isToldLocked() {
-            return saysLocked(contacts[0]) && saysLocked(contacts[1]);
+            boolean locked = isLocked();
+            return saysLocked(contacts[0], locked) && saysLocked(contacts[1], locked);
         }
 
-        private boolean saysLocked(int how) {
-            return how == CONTACT_SAYS_LOCKED || how != CONTACT_SAYS_NOT && isLocked();
+        private static boolean saysLocked(int how, boolean locked) {
+            return how == CONTACT_SAYS_LOCKED || how != CONTACT_SAYS_NOT && locked;
         }
 
         int part(int which) {
@@ -396,6 +396,7 @@ public final class PlatformDoors {
         int steps;
         int state;
         int warningBegan;
+        int openedAt;
         int openings;
 
         Side(Line incoming, Line outgoing) {
@@ -426,6 +427,7 @@ public final class PlatformDoors {
             steps = 0;
             state = CLOSED;
             warningBegan = 0;
+            openedAt = 0;
             openings = 0;
         }
 
@@ -445,6 +447,7 @@ public final class PlatformDoors {
             if (state == CLOSED) {
                 if (mayOpen()) {
                     state = OPEN;
+                    openedAt = steps;
                     openings++;
                 }
             } else if (state == OPEN) {
@@ -479,20 +482,18 @@ public final class PlatformDoors {
         }
 
         /** An echo of 0 stands both for no frame taken and for one that echoes none. */
-        final boolean hasAge() {
-            return newest.echo != 0;
-        }
-
         final int age() {
-            return hasAge() ? steps - newest.echo * STEPS_A_FRAME : NONE;
+            return newest.echo == 0 ? NONE : steps - newest.echo * STEPS_A_FRAME;
         }
 
         final boolean isFresh() {
-            return hasAge() && age() <= FRESH_AGE;
+            int age = age();
+            return age != NONE && age <= FRESH_AGE;
         }
 
         final boolean isStale() {
-            return !hasAge() || age() > STALE_AGE;
+            int age = age();
+            return age == NONE || age > STALE_AGE;
         }
 
         final int countToldLocked() {
@@ -501,10 +502,6 @@ public final class PlatformDoors {
                 told += asNumber(leaves[i].isToldLocked());
             }
             return told;
-        }
-
-        final boolean allToldLocked() {
-            return countToldLocked() == LEAVES;
         }
 
         private int isolatedBits() {
@@ -608,7 +605,7 @@ public final class PlatformDoors {
 
         @Override
         boolean isAssured() {
-            return allToldLocked();
+            return countToldLocked() == LEAVES;
         }
 
         @Override

@@ -69,6 +69,8 @@ public final class BreachTest {
         CHECK.due("second", doors.breaches(), 2);
         doors.begin();
         CHECK.due("begin", doors.breaches(), 0);
+        doors.step(1, 500);
+        CHECK.due("no opening since begin", doors.breaches(), 0);
     }
 
     /** All its steps near the platform's opening, but for those of the frame, are made moving. */
