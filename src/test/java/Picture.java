@@ -28,16 +28,23 @@ final class Picture {
             ToIntFunction<PlatformDoors> call, int due) {
         PlatformDoors asked = scene.get();
         check.due(what, call.applyAsInt(asked), due);
-        List<String> got = new Picture(asked).rows;
-        List<String> want = new Picture(scene.get()).rows;
+        alike(check, "changed by the refused " + what, asked, scene.get());
+    }
+
+    /** Both objects are spoilt by that. */
+    static void alike(Check check, String what, PlatformDoors one, PlatformDoors other) {
+        List<String> got = new Picture(one).rows;
+        List<String> want = new Picture(other).rows;
         int row = 0;
         while (row < got.size() && row < want.size() && got.get(row).equals(want.get(row))) {
             row++;
         }
         boolean same = row == got.size() && row == want.size();
-        String change = same ? "nothing"
-            : (row < got.size() ? got.get(row) : "the end") + ", not " + (row < want.size() ? want.get(row) : "the end");
-        check.due("changed by the refused " + what + ": " + change, same, true);
+        check.due(what + ": " + (same ? "nothing" : rowOf(got, row) + ", not " + rowOf(want, row)), same, true);
+    }
+
+    private static String rowOf(List<String> rows, int row) {
+        return row < rows.size() ? rows.get(row) : "the end";
     }
 
     private void row(String what, int answer) {
