@@ -5,7 +5,10 @@ import java.lang.reflect.Modifier;
 import java.util.Set;
 import java.util.TreeSet;
 
-/** The public face: the constants, and no member that the document does not name. */
+/**
+ * The public face: the constants, and no member that the document does not name; the classes inside
+ * as rule 1 of LANGUAGE.md asks.
+ */
 public final class FaceTest {
     private static final Set<String> METHODS = Set.of(
         "void begin()", "int step(int,int)", "int arrive(int,int)", "int error(int)",
@@ -27,6 +30,7 @@ public final class FaceTest {
             }
         }
         check.due("methods " + open, open.equals(METHODS), true);
+        noPrivateNameIsPublic(check, PlatformDoors.class);
 
         Set<String> fields = new TreeSet<>();
         for (Field f : PlatformDoors.class.getDeclaredFields()) {
@@ -40,7 +44,24 @@ public final class FaceTest {
         check.due("constructors", constructors.length, 1);
         check.due("constructor's parameters", constructors[0].getParameterCount(), 0);
         check.due("constructor is public", Modifier.isPublic(constructors[0].getModifiers()), true);
+        for (Class<?> inside : PlatformDoors.class.getDeclaredClasses()) {
+            int modifiers = inside.getModifiers();
+            check.due(inside + " is static", Modifier.isStatic(modifiers), true);
+            check.due(inside + " is public", Modifier.isPublic(modifiers), false);
+            check.due(inside + " is protected", Modifier.isProtected(modifiers), false);
+            noPrivateNameIsPublic(check, inside);
+        }
         check.end();
+    }
+
+    /** Rule 1 of LANGUAGE.md. */
+    private static void noPrivateNameIsPublic(Check check, Class<?> type) {
+        for (Method m : type.getDeclaredMethods()) {
+            if (!Modifier.isPublic(m.getModifiers())) {
+                boolean isPublicName = METHODS.stream().anyMatch(x -> x.contains(" " + m.getName() + "("));
+                check.due(type + "'s " + m.getName() + " bears a public one's name", isPublicName, false);
+            }
+        }
     }
 
     private static String described(Method m) {
